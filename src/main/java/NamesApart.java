@@ -213,7 +213,7 @@ public final class NamesApart {
         }
         boolean own = now.called[person] == name;
         int esteem = now.esteem(now.kinds[person], name, now.lettersOfMother(person), own);
-        return esteem + now.liking(person, name);
+        return esteem + now.likesLaw(now.sounds[name], now.lengths[name], person);
     }
 
     public int lawful() {
@@ -711,10 +711,6 @@ public final class NamesApart {
             }
         }
 
-        int liking(int one, int name) {
-            return likesLaw(sounds[name], lengths[name], one);
-        }
-
         int likesLaw(int s, int l, int w) {
             if (likes.isEmpty()) {
                 return 0;
@@ -1111,7 +1107,7 @@ public final class NamesApart {
             most[asked] = 0;
             for (int d = asked - 1; d >= 0; d--) {
                 for (int name = 0; name < state.names; name++) {
-                    likings[d * MOST_NAMES + name] = state.liking(who[d], name);
+                    likings[d * MOST_NAMES + name] = state.likesLaw(state.sounds[name], state.lengths[name], who[d]);
                 }
                 most[d] = most[d + 1] + mostOf(d);
             }
@@ -1192,6 +1188,7 @@ public final class NamesApart {
 
         /** The set as bits, or -1: those who may be changed are not enough. */
         int leastSet(int taker, int taken) {
+            // The state itself tells who would stand unlawfully, so the taker has the NAME for that long.
             int was = state.called[taker];
             state.called[taker] = taken;
             lookForTrouble();

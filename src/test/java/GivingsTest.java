@@ -18,6 +18,7 @@ public final class GivingsTest {
         madeByText();
         strikes();
         births();
+        tenBirths();
         birthsWithNames();
         DUE.end();
     }
@@ -228,6 +229,7 @@ public final class GivingsTest {
         x.strike(4, 0);
         x.strike(1, 1);
         DUE.is("23: what is struck must go", x.changes(0, 2), 6);
+        DUE.is("23: the taker had what is struck", x.changes(1, 3), 4);
         DUE.is("23: name -1", x.changes(0, -1), Due.BEYOND);
         DUE.is("23: name 4", x.changes(0, 4), Due.BEYOND);
         DUE.is("23: person 3", x.changes(3, 0), Due.BEYOND);
@@ -315,6 +317,9 @@ public final class GivingsTest {
         DUE.is("26: struck ones may be", x.made(2, 0, 0), 0);
         DUE.is("26: n 0", x.made(0, 0, -1), Due.BEYOND);
         DUE.is("26: n 7", x.made(7, 0, -1), Due.BEYOND);
+        DUE.is("26: without any", x.made(3, (1 << 26) - 1, -1), 0);
+        DUE.is("26: the first of none", x.made(3, (1 << 26) - 1, 0), Due.NONE);
+        DUE.is("26: z alone", x.made(1, (1 << 25) - 1, 0), 25);
         DUE.is("26: set -1", x.made(2, -1, -1), Due.BEYOND);
         DUE.is("26: set above", x.made(2, 1 << 26, -1), Due.BEYOND);
         DUE.is("26: i -2", x.made(2, 0, -2), Due.BEYOND);
@@ -387,6 +392,19 @@ public final class GivingsTest {
         DUE.is("28: room", x.births(7), 0);
         DUE.is("28: BEYOND ahead of FULL", x.births(11), Due.BEYOND);
         DUE.is("28: full", x.births(1), Due.FULL);
+    }
+
+    private static void tenBirths() {
+        NamesApart y = new NamesApart();
+        DUE.is("28: ten at once", y.births(10), 0);
+        for (int one = 0; one < 10; one++) {
+            int ahead = one == 0 ? 0 : 2 + 3 * (one - 1);
+            DUE.is("28: kind of " + one, y.ofPerson(one, 0), (draws(1, ahead + 1) >>> 8) % 7);
+            int mother = one == 0 ? -1 : (draws(1, ahead + 2) >>> 8) % one;
+            DUE.is("28: mother of " + one, y.ofPerson(one, 1), mother);
+            int lesser = one == 0 ? 0 : 1 << mother | 1 << one - 1;
+            DUE.is("28: near " + one, y.ofPerson(one, 3) & (1 << one) - 1, lesser);
+        }
     }
 
     private static void birthsWithNames() {

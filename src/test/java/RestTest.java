@@ -10,6 +10,7 @@ public final class RestTest {
         put();
         move();
         image();
+        imageThenOthers();
         imageLeavesOut();
         tellAndCheck();
         checkPlaces();
@@ -28,7 +29,7 @@ public final class RestTest {
         DUE.is("40: not counted", x.told(1), 0);
     }
 
-    /** One of each KIND: n is the KIND + 1, m 0, as 0 is their MOTHER. */
+    /** One of each KIND: n is the KIND + 2, m 1, as 1 is their MOTHER. */
     private static NamesApart kinds() {
         NamesApart x = new NamesApart();
         x.person(0, -1);
@@ -53,7 +54,6 @@ public final class RestTest {
 
     private static void voices() {
         NamesApart x = kinds();
-        // n is the KIND + 2, m is 1.
         voice(x, 0, 0, 10, 12, 10);
         voice(x, 0, 1, 10, 24, 11, 10);
         voice(x, 0, 2, 10, 9, 12);
@@ -61,6 +61,8 @@ public final class RestTest {
         voice(x, 1, 0, 10, 13, 10);
         voice(x, 1, 1, 10, 26 - 0, 20, 11, 10, 12);
         voice(x, 1, 3, 10, 26 ^ 9, 13, 20, 11, 10, 12, 12);
+        x.person(1, -1);
+        DUE.is("30: short, keeps(1) is taken off", x.voice(9, 1, 10), 2 * 19 - 2);
         voice(x, 2, 0, 10, 14 * 3, 30, 10);
         voice(x, 2, 1, 10, 84, 11, 30, 10);
         voice(x, 2, 3, 10, 84 ^ 9, 13, 11, 30, 10, 12);
@@ -127,16 +129,20 @@ public final class RestTest {
         DUE.is("33: number -1", x.put(0, -1, 0), Due.BEYOND);
         DUE.is("33: put", x.put(0, 1, 0x7F01), 1);
         DUE.is("33: its lowest eight", x.nears(0), 1);
-        x.put(0, 1, 0x80);
-        DUE.is("33: 128 is below 0", x.nears(0), 0);
+        x.put(0, 1, 0x81);
+        DUE.is("33: 129 is below 0 in eight", x.nears(0), 0);
         x.sheet(0, 16, 2);
         x.put(0, 1, 0x10002);
         DUE.is("33: its lowest sixteen", x.nears(0), 1);
         x.put(0, 1, 0x102);
         DUE.is("33: all sixteen", x.nears(0), 0);
+        x.put(0, 1, 0x8002);
+        DUE.is("33: with a sign", x.nears(0), 0);
         x.sheet(0, 32, 2);
         x.put(0, 1, 0x10002);
         DUE.is("33: all of it", x.nears(0), 0);
+        x.put(0, 1, 0x80000002);
+        DUE.is("33: its sign, too", x.nears(0), 0);
         DUE.is("33: near now", x.ofPerson(0, 3), 6);
     }
 
@@ -221,6 +227,36 @@ public final class RestTest {
         x.call(2, 0);
         DUE.is("36: in its place", x.restore(), 3);
         DUE.is("36: no name then", x.ofPerson(2, 2), -1);
+    }
+
+    /** What came behind the IMAGE and is gone leaves nothing to those who come in its place. */
+    private static void imageThenOthers() {
+        NamesApart x = Due.named("ab");
+        Due.people(x, 0, 0);
+        x.tell(0);
+        x.image();
+        Due.name(x, "cd", 5);
+        x.person(4, 1);
+        x.near(0, 2, 1);
+        x.call(2, 1);
+        x.check();
+        x.tell(9);
+        x.restore();
+        Due.name(x, "bc", 6);
+        x.person(6, 0);
+        DUE.is("36: kind", x.ofPerson(2, 0), 6);
+        DUE.is("36: mother", x.ofPerson(2, 1), 0);
+        DUE.is("36: name", x.ofPerson(2, 2), -1);
+        DUE.is("36: near", x.ofPerson(2, 3), 0);
+        DUE.is("36: near, the other way", x.ofPerson(0, 3), 0);
+        DUE.is("36: the word", x.ofName(1, 3), 1);
+        DUE.is("36: rows", x.rows(2), 0);
+        x.tell(0);
+        x.tell(0);
+        DUE.is("36: the number that waited", x.check(), 0);
+        DUE.is("36: once more", x.restore(), 2);
+        Due.name(x, "xy", 6);
+        DUE.is("36: rows of what stands", x.rows(2), 2);
     }
 
     private static void imageLeavesOut() {
