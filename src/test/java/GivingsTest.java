@@ -281,6 +281,13 @@ public final class GivingsTest {
         DUE.is("24: not the first", x.side(0), 0b110);
         x = Due.named("a", "a", "a");
         DUE.is("24: the same", x.side(0), 1);
+        x = new NamesApart();
+        x.image();
+        Due.name(x, "a", 1);
+        DUE.is("24: one", x.side(0), 1);
+        x.restore();
+        DUE.is("24: none again", x.side(0), 0);
+        DUE.is("25: none again", x.rows(2), 0);
     }
 
     private static void rows() {

@@ -213,5 +213,14 @@ public final class PeopleTest {
         DUE.is("15: nobody has it", x.lawful(), 1);
         x.call(2, 2);
         DUE.is("15: the same name", x.lawful(), 0);
+        NamesApart y = Due.named("ab", "cd");
+        Due.people(y, 0, 0, 0);
+        y.strike(0, 1);
+        for (int one = 0; one < 3; one++) {
+            DUE.is("15: lawful ahead of " + one, y.lawful(), 1);
+            y.call(one, 0);
+            DUE.is("15: struck, whoever has it: " + one, y.lawful(), 0);
+            y.call(one, 1);
+        }
     }
 }
