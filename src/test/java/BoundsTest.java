@@ -18,6 +18,8 @@ public final class BoundsTest {
         letters();
         people();
         twosOfSheets();
+        worthByLength();
+        worthByLetters();
         texts();
         givings();
         changes();
@@ -28,6 +30,7 @@ public final class BoundsTest {
         sheets();
         widths();
         moves();
+        checks();
         told();
         largest();
         DUE.end();
@@ -180,6 +183,50 @@ public final class BoundsTest {
         DUE.is("13: twenty twos", x.nears(0), 20);
         x.put(0, 39, 2);
         DUE.is("13: the last is none", x.nears(0), 19);
+    }
+
+    /** "8 less how many letters its word has, times 5"; "0 if its word has more than 4 letters". */
+    private static void worthByLength() {
+        for (int length = 1; length <= 8; length++) {
+            NamesApart x = new NamesApart();
+            Due.name(x, "abcdefgh".substring(0, length), 7);
+            Due.people(x, 0, 1, 5);
+            int brief = 7 + 5 * (8 - length);
+            DUE.is("14: PERSON, letters: " + length, x.worth(0, 0), 7);
+            DUE.is("14: SHORT, letters: " + length, x.worth(1, 0), brief);
+            DUE.is("14: CURT, letters: " + length, x.worth(2, 0), length > 4 ? 0 : brief);
+            Due.text(x, 1, "l*10");
+            DUE.is("14: CURT, and LIKES, letters: " + length, x.worth(2, 0), (length > 4 ? 0 : brief) + 10 * length);
+            NamesApart y = new NamesApart();
+            Due.name(y, "z".repeat(length), 7);
+            Due.people(y, 1);
+            DUE.is("14: SHORT, letters that are alike: " + length, y.worth(0, 0), brief);
+            DUE.is("20: SHORT, letters: " + length, x.best(-1) - 30 * length, 7 + brief + (length > 4 ? 0 : brief));
+        }
+    }
+
+    /** "10 for each LETTER (once) that is in the NAME of the MOTHER, too": from none of them to all eight. */
+    private static void worthByLetters() {
+        for (int common = 0; common <= 8; common++) {
+            NamesApart x = new NamesApart();
+            Due.name(x, "abcdefgh", 7);
+            Due.name(x, "abcdefgh".substring(0, common) + "stuvwxyz".substring(common), 9);
+            x.person(0, -1);
+            x.person(2, 0);
+            x.person(4, 0);
+            x.call(0, 1);
+            DUE.is("14: KIN, in common: " + common, x.worth(1, 0), 7 + 10 * common);
+            DUE.is("14: FOND, in common: " + common, x.worth(2, 0), 2 * (7 + 10 * common));
+        }
+        NamesApart x = Due.named("aaaaaaaa", "a", "bab");
+        x.person(0, -1);
+        x.person(2, 0);
+        x.call(0, 0);
+        DUE.is("14: KIN, once", x.worth(1, 0), 20);
+        DUE.is("14: KIN, one letter", x.worth(1, 1), 20);
+        x.call(0, 2);
+        DUE.is("14: KIN, once of two", x.worth(1, 0), 20);
+        DUE.is("14: KIN, two", x.worth(1, 2), 30);
     }
 
     private static void texts() {
@@ -347,6 +394,35 @@ public final class BoundsTest {
         outside("34: i and n together are 0 again", Stories::busy, (x, v) -> x.move(0, v, 2, 0, -v), 1, Due.BEYOND);
         outside("34: j and n together are 0 again", Stories::busy, (x, v) -> x.move(0, 0, 2, v, -v), 1, Due.BEYOND);
         outside("34: n below 0, i at the end", Stories::busy, (x, v) -> x.move(0, 6, 2, 3, v), -1, Due.BEYOND);
+    }
+
+    /** NAMES 0 and 1 for two of PEOPLE: each number that may wait, at each place. */
+    private static void checks() {
+        for (int v : new int[] {Integer.MIN_VALUE, -2, -1, 0, 1, 2, 3, 14, Integer.MAX_VALUE}) {
+            for (int place = 0; place < 2; place++) {
+                NamesApart x = Due.named("ab", "cd");
+                Due.people(x, 0, 0);
+                x.near(0, 1, 1);
+                DUE.is("37: any number waits", x.tell(place == 0 ? v : 0), 1);
+                DUE.is("37: any number waits", x.tell(place == 0 ? 1 : v), 2);
+                int want = v == place ? 0 : v == 0 || v == 1 ? 2 : place + 1;
+                DUE.is("38: " + v + " at place " + place, x.check(), want);
+                DUE.is("38: none waits then", x.count(6), 0);
+            }
+        }
+        for (int told = 0; told <= 20; told++) {
+            NamesApart x = Due.named("ab", "cd");
+            Due.people(x, 0, 0, 0);
+            for (int k = 0; k < told; k++) {
+                x.tell(1);
+            }
+            DUE.is("38: for three, told: " + told, x.check(), told == 3 ? 0 : 1 + Math.min(told, 3));
+            x.strike(2, 1);
+            for (int k = 0; k < told; k++) {
+                x.tell(k == 1 ? 1 : 0);
+            }
+            DUE.is("38: the second is STRUCK, told: " + told, x.check(), told == 0 ? 1 : 2);
+        }
     }
 
     private static void told() {

@@ -10,6 +10,7 @@ public final class FullTest {
         births();
         waiting();
         sheet();
+        sheetLaidAnew();
         longestText();
         deepestText();
         givingsOfFour();
@@ -176,6 +177,23 @@ public final class FullTest {
         DUE.is("13: nothing of what was", x.nears(3), 1);
     }
 
+    /** "all 0": each number, of a SHEET that had others ahead of it. */
+    private static void sheetLaidAnew() {
+        for (int number = 0; number < 40; number++) {
+            NamesApart x = new NamesApart();
+            Due.people(x, 0, 0);
+            x.sheet(2, 8, 40);
+            for (int i = 0; i < 40; i++) {
+                x.put(2, i, 1);
+            }
+            DUE.is("32: laid anew", x.sheet(2, 8, 40), 1);
+            x.sheet(3, 8, 2);
+            x.put(3, 1, 1);
+            x.move(2, number, 3, 0, 1);
+            DUE.is("32: number " + number + " is 0", x.nears(3), 1);
+        }
+    }
+
     /** Fifty bytes: as many NUMBERS and signs as go in, and what is one too many. */
     private static void longestText() {
         NamesApart x = new NamesApart();
@@ -190,9 +208,10 @@ public final class FullTest {
         String falling = "1" + "-1".repeat(24);
         DUE.is("16: taken off from the left on", Due.text(x, 1, falling), 1);
         DUE.is("17: 1 less 24", x.law(1, 0, 0, 0), -23);
-        String ladder = "0|1&2<3+4*(0|1&2<3+4*(0|1&2<3+4*(0|1&2<3+4*5)))";
+        String ladder = "0|1&0<0+1*(0|1&0<0+1*(0|1&0<0+1*(0|1&0<0+1*s)))";
         DUE.is("16: as many open steps as there can be", Due.text(x, 1, ladder), 1);
-        DUE.is("17: true", x.law(1, 0, 0, 0), 1);
+        DUE.is("17: the last of them is above 0", x.law(1, 1, 0, 0), 1);
+        DUE.is("17: it is not", x.law(1, 0, 0, 0), 0);
         DUE.is("16: no TEXT is too long: it ends too early", Due.text(x, 0, "(" + "p+".repeat(24) + "p"), -60);
     }
 
@@ -259,6 +278,13 @@ public final class FullTest {
         for (int one = 0; one < 4; one++) {
             DUE.is("20: of " + one, y.best(one), want[one]);
         }
+        NamesApart z = Due.named("a", "b");
+        Due.people(z, 0, 4);
+        z.near(0, 1, 1);
+        z.sound(0, 50);
+        z.sound(1, 40);
+        DUE.is("20: the first of PEOPLE leaves the first of NAMES", z.best(-1), 40 + 2 * 50);
+        DUE.is("20: to the second", z.best(1), 0);
     }
 
     private static void fewestOfFour() {

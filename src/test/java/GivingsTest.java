@@ -8,6 +8,7 @@ public final class GivingsTest {
         all();
         best();
         bestByMothers();
+        oneSearchBehindAnother();
         fewest();
         give();
         changes();
@@ -162,6 +163,29 @@ public final class GivingsTest {
         DUE.are("20: near her mother", namesBy(x, "best", 2), 1, 0);
         x.strike(0, 1);
         DUE.is("20: none", x.best(-1), Due.NONE);
+    }
+
+    /** What was searched for ahead leaves nothing behind. */
+    private static void oneSearchBehindAnother() {
+        NamesApart x = Due.named("ab", "cd", "bd");
+        x.person(0, -1);
+        x.person(2, 0);
+        x.person(0, -1);
+        DUE.is("23: the mother has none", x.changes(2, 1), 0);
+        x.call(0, 0);
+        x.call(2, 0);
+        DUE.is("20: she has one", x.best(-1), 30);
+        DUE.is("20: hers", x.best(1), 0);
+        DUE.is("21: hers", x.fewest(1), 0);
+        x.strike(0, 1);
+        DUE.is("18: no more", x.first(1), 1);
+        DUE.is("20: b", x.best(1), 2);
+        DUE.is("23: who has what is struck", x.changes(1, 1), 0b101);
+        DUE.is("20: b, as it was", x.best(-1), 20);
+        x.strike(3, 1);
+        DUE.is("20: none is left", x.best(1), Due.NONE);
+        x.strike(3, 0);
+        DUE.is("20: b again", x.best(1), 2);
     }
 
     private static void fewest() {

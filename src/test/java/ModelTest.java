@@ -8,6 +8,8 @@ import java.util.Random;
 public final class ModelTest {
     private static final int RUNS = 400;
     private static final int CALLS = 512;
+    /** A step may feed fifty bytes, and then ask: nothing is promised behind the 512th call. */
+    private static final int CALLS_OF_A_STEP = 8;
     /** Each call's name as often as it shall come. */
     private static final String CALLS_OFTEN = "feed*10 name*8 ofName*2 sound*2 clash strike*3 person*5 ofPerson*3 as*2 call*8"
         + " near*8 nears*2 worth*3 lawful*2 text*5 law*4 first*3 all*3 best*5 fewest*4 give*2 changes*4 side*2 rows made*3"
@@ -57,7 +59,7 @@ public final class ModelTest {
                 often.add(parts[0]);
             }
         }
-        for (int k = 0; k < CALLS; ) {
+        for (int k = 0; k <= CALLS - CALLS_OF_A_STEP; ) {
             String name = often.get(random.nextInt(often.size()));
             int made = step(name);
             if (made < 0) {

@@ -16,6 +16,7 @@ public final class NothingThereTest {
         noVoice();
         noneToBeGiven();
         noNameLeft();
+        nobodyNearHasIt();
         noNeighbour();
         noMother();
         noneWaits();
@@ -283,7 +284,28 @@ public final class NothingThereTest {
         DUE.is("28: the first has it", y.ofPerson(0, 2), 0);
         DUE.is("28: it CLASHES with that of the MOTHER", y.births(1), 0);
         DUE.is("28: none", y.ofPerson(1, 2), -1);
-        DUE.is("28: those NEAR have none, or the first's", y.births(1), y.ofPerson(2, 1) == 0 ? 0 : 1);
+    }
+
+    /** "CLASHES with that of nobody NEAR": who is not NEAR may have it, too. */
+    private static void nobodyNearHasIt() {
+        int got = 0;
+        for (int seed = 0; seed < 40; seed++) {
+            NamesApart x = Due.named("ab");
+            Due.people(x, 0, 0, 0, 0);
+            x.call(0, 0);
+            x.call(2, 0);
+            x.seed(seed);
+            int named = x.births(1);
+            boolean free = x.ofPerson(4, 1) % 2 == 1;
+            DUE.is("28: got one, seed " + seed, named, free ? 1 : 0);
+            DUE.is("28: which, seed " + seed, x.ofPerson(4, 2), free ? 0 : -1);
+            got += named;
+        }
+        DUE.is("28: some got one, some none", got > 5 && got < 35 ? 1 : 0, 1);
+        NamesApart y = Due.named("ab");
+        Due.people(y, 0, 0, 0);
+        y.call(2, 0);
+        DUE.is("28: the one right ahead has it", y.births(1), 0);
     }
 
     private static void noNeighbour() {

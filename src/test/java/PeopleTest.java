@@ -164,6 +164,17 @@ public final class PeopleTest {
         DUE.is("14: name -1", x.worth(0, -1), Due.BEYOND);
         DUE.is("14: person 8", x.worth(8, 0), Due.BEYOND);
         DUE.is("14: person -1", x.worth(-1, 0), Due.BEYOND);
+        NamesApart z = Due.named("ab", "cd", "bd");
+        Due.people(z, 0, 0, 0);
+        z.person(2, 1);
+        z.near(3, 2, 1);
+        z.call(0, 0);
+        z.call(2, 2);
+        DUE.is("14: the mother has none, others have", z.worth(3, 2), 10);
+        z.call(1, 1);
+        DUE.is("14: hers alone", z.worth(3, 2), 20);
+        DUE.is("14: nothing like hers", z.worth(3, 0), 10);
+        DUE.is("14: her own", z.worth(3, 1), 30);
         NamesApart y = Due.named("abcd", "abcde", "abcdefgh");
         y.person(5, -1);
         y.person(1, -1);

@@ -74,7 +74,8 @@ final class Twins {
 
     private static List<Long> names(NamesApart x) {
         List<Long> seen = new ArrayList<>();
-        for (int name = 0; name < x.count(0); name++) {
+        int names = x.count(0);
+        for (int name = 0; name < names; name++) {
             for (int what = 0; what <= 10; what++) {
                 seen.add((long) x.ofName(name, what));
             }
@@ -84,7 +85,8 @@ final class Twins {
 
     private static List<Long> people(NamesApart x) {
         List<Long> seen = new ArrayList<>();
-        for (int one = 0; one < x.count(1); one++) {
+        int people = x.count(1);
+        for (int one = 0; one < people; one++) {
             for (int what = 0; what <= 4; what++) {
                 seen.add((long) x.ofPerson(one, what));
             }
